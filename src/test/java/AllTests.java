@@ -11,6 +11,7 @@ public final class AllTests {
         FollowTests.run();
         PredictionTests.run();
         SavedTests.run();
+        RandomTests.run();
         System.out.println(Check.passed() + " passed, " + Check.failed() + " failed");
         if (Check.failed() > 0) {
             System.exit(1);
