@@ -48,6 +48,9 @@ final class PredictionTests {
         Check.due("the next time", park.returnsIn(0, 500), 4);
         park.run(4);
         Check.due("never", park.returnsIn(0, 500), -1);
+        PermitPark soon = Parks.of("thread 1: nap 1;");
+        soon.run(1);
+        Check.due("returnsIn(0, 1)", soon.returnsIn(0, 1), 1);
         PermitPark atOnce = Parks.of("thread 1: park, nap 2;");
         atOnce.wake(0);
         Check.due("to go on at once is no return", atOnce.returnsIn(0, 500), 4);
@@ -107,6 +110,10 @@ final class PredictionTests {
         // 5 too: the thread 0 has the lower number, but both never ran; it runs first and is done behind 1 tick.
         PermitPark tie = Parks.of("thread 1: run 1; thread 5: run 1;");
         Check.due("as great as another", tie.bestBase(0, 200), 5);
+        PermitPark high = Parks.of("thread 9: run 20; thread 8: run 5;");
+        Check.due("with 9 in turns", high.bestBase(1, 200), 9);
+        Check.due("only with 9", high.bestBase(1, 10), 9);
+        Check.due("not within so many", high.bestBase(1, 9), -1);
         Check.due("greater than another", tie.bestBase(1, 200), 2);
     }
 

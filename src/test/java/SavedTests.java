@@ -10,6 +10,7 @@ final class SavedTests {
     static void run() {
         Check.test("promises 33, 34: all comes back", SavedTests::allComesBack);
         Check.test("promises 33, 34: all goes on as it would have", SavedTests::goesOn);
+        Check.test("promises 33, 34: all counters", SavedTests::counters);
         Check.test("promises 33, 34: the two slots", SavedTests::slots);
         Check.test("promises 33, 34: not the text, not the error", SavedTests::textAndError);
         Check.test("promises 33, 34: exceptions", SavedTests::exceptions);
@@ -54,6 +55,25 @@ final class SavedTests {
         park.restore(1);
         Check.due("addThread", park.addThread(9, 1, 0), 3);
         Check.due("of a new thread", park.thread(3, 10) + park.thread(3, 12), 0);
+    }
+
+    private static void counters() {
+        String setup = "thread 9: park, tell 1, steal 1, steal 1, run 1; thread 2: run 9; thread 9: run 1;";
+        PermitPark park = Parks.of(setup);
+        PermitPark same = Parks.of(setup);
+        for (PermitPark one : new PermitPark[] {park, same}) {
+            one.wake(0);
+            one.wake(0);
+            one.run(4);
+            one.wake(2);
+        }
+        for (int what = 14; what <= 17; what++) {
+            Check.due("count(" + what + ")", park.count(what), 1);
+        }
+        park.save(0);
+        Parks.load(park, "thread 1: park;");
+        park.restore(0);
+        Check.dueText("all", Parks.all(park), Parks.all(same));
     }
 
     private static void slots() {

@@ -12,6 +12,7 @@ final class SetupTextTests {
         Check.test("promise 3: truncateText", SetupTextTests::truncate);
         Check.test("promise 4: load", SetupTextTests::load);
         Check.test("promise 4: load replaces everything but saved states", SetupTextTests::loadReplaces);
+        Check.test("promise 4: nothing of earlier threads is left", SetupTextTests::nothingIsLeft);
         Check.test("promise 4: a wrong text changes nothing but the buffer", SetupTextTests::wrongTextChangesNothing);
         Check.test("promise 4: every instruction and range", SetupTextTests::ranges);
         Check.test("promises 5, 6: no error", SetupTextTests::noError);
@@ -64,6 +65,16 @@ final class SetupTextTests {
         Check.due("truncateText(800)", park.truncateText(800), 800);
         Check.due("load()", park.load(), 0);
         Check.due("the buffer is empty", park.appendText(BLANKS), 4);
+        for (String last : new String[] {"z", "9", ";", "\u00ff"}) {
+            PermitPark full = new PermitPark();
+            Check.due("load() of 800 bytes", Parks.load(full, "flag 1;" + " ".repeat(792) + last), -1);
+            Check.due("errorPosition() of 800 bytes", full.errorPosition(), 799);
+        }
+        PermitPark long800 = new PermitPark();
+        Check.due("load() of a number up to 800", Parks.load(long800, "seed " + "0".repeat(794) + "7"), -1);
+        Check.due("errorPosition()", long800.errorPosition(), 800);
+        Check.due("load() of 800 bytes", Parks.load(long800, "seed " + "0".repeat(793) + "7;"), 0);
+        Check.due("x", long800.count(4), 7);
     }
 
     private static void byteOrder() {
@@ -89,6 +100,11 @@ final class SetupTextTests {
         Check.dueThrow("truncateText(8)", IllegalArgumentException.class, () -> park.truncateText(8));
         Check.due("load()", park.load(), 0);
         Check.due("count(10)", park.count(10), 2);
+        Parks.write(park, "flag 3;flag 12");
+        park.truncateText(13);
+        Check.due("load()", park.load(), -1);
+        Check.due("what was cut off is no part of a token", park.errorCode(), 1);
+        Check.due("errorPosition()", park.errorPosition(), 13);
     }
 
     private static void load() {
@@ -126,6 +142,53 @@ final class SetupTextTests {
         Check.due("threads", park.count(2), 1);
         Check.due("load()", Parks.load(park, "thread 2: run 1;"), 1);
         Check.dueText("all", Parks.all(park), Parks.all(Parks.of("thread 2: run 1;")));
+    }
+
+    /** Ten threads, that come to all states, and all counters above 0. */
+    private static PermitPark used() {
+        PermitPark park = Parks.of("thread 9: lock 0, lock 5, await 0; thread 8: lock 0; thread 7: lock 0;"
+            + "thread 6: lock 1, nap 90; thread 5: run 1; thread 4: unlock 1; thread 3: lock 1;"
+            + "thread 2: wake 4, tell 0, wake 9, wake 9, park, tell 0, run 2, park, run 20;"
+            + "thread 1: steal 9, await 3; thread 1: run 20;");
+        park.wake(9);
+        park.run(15);
+        park.wake(7);
+        park.run(8);
+        for (int i = 0; i < 10; i++) {
+            park.wake(i);
+            park.wake(i);
+            park.interrupt(i);
+        }
+        park.run(4);
+        return park;
+    }
+
+    private static void nothingIsLeft() {
+        String small = "thread 3: wake 1, wake 1, tell 1, steal 1, run 1;";
+        PermitPark park = used();
+        for (int what = 5; what <= 17; what++) {
+            Check.due("count(" + what + ") is above 0", park.count(what) > 0 || what == 10 || what == 12, true);
+        }
+        park.ahead(20, 0);
+        Check.due("load()", Parks.load(park, small), 1);
+        PermitPark fresh = Parks.of(small);
+        Check.dueText("all", Parks.all(park), Parks.all(fresh));
+        park.run(7);
+        fresh.run(7);
+        Check.dueText("all, later", Parks.all(park), Parks.all(fresh));
+        for (int i = 1; i < 10; i++) {
+            Check.due("addThread", park.addThread(i, 0, 3), i);
+            fresh.addThread(i, 0, 3);
+        }
+        Check.dueText("all, with new threads", Parks.all(park), Parks.all(fresh));
+        park.run(26);
+        fresh.run(26);
+        Check.dueText("all, with new threads, later", Parks.all(park), Parks.all(fresh));
+        PermitPark spurious = used();
+        Check.due("load()", Parks.load(spurious, "thread 1: run 9; set 0 1000;"), 1);
+        spurious.run(3);
+        Check.due("no draws for earlier threads", spurious.count(4), 1);
+        Check.due("no returns of earlier threads", spurious.count(13), 0);
     }
 
     private static void wrongTextChangesNothing() {
@@ -199,6 +262,11 @@ final class SetupTextTests {
         error("flag1 2;", 1, 6);
         error("flags 1;", 1, 0);
         error("fla 1;", 1, 0);
+        error("flagz 1;", 1, 0);
+        error("flaga 1;", 1, 0);
+        error("glag 1;", 1, 0);
+        error("thread 1: parkz;", 1, 10);
+        error("thread 1: bun 1;", 1, 10);
         error("flag 1;;", 1, 7);
         error("run 1;", 1, 0);
         error("park;", 1, 0);

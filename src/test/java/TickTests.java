@@ -299,6 +299,13 @@ final class TickTests {
         park.run(1);
         Check.due("not of an interrupt", park.count(17), 1);
         Check.due("cause stays", park.thread(0, 6), 4);
+        PermitPark none = Parks.of("thread 1: park, tell 1, steal 1, wake 1, wake 1, run 1;");
+        none.wake(0);
+        none.run(5);
+        for (int what = 14; what <= 17; what++) {
+            Check.due("count(" + what + ") behind acts for the number behind the last thread", none.count(what), 0);
+        }
+        Check.due("no events", none.count(13), 0);
         PermitPark wasted = Parks.of("thread 1: park, tell 1; thread 9: run 1;");
         wasted.wake(0);
         wasted.run(3);
@@ -457,6 +464,9 @@ final class TickTests {
         Check.dueText("state", Parks.facts(park, 2), "0 2 2 0");
         Check.dueText("priority", Parks.facts(park, 1), "3 3 3 2");
         Check.due("next()", park.next(), 0);
+        PermitPark first = Parks.of("thread 9: nap 3, lock 0; thread 1: lock 0, run 9;");
+        first.run(4);
+        Check.dueText("lent by the thread 0", Parks.facts(first, 1), "9 9");
         park.setBase(2, 7);
         Check.dueText("lent on", Parks.facts(park, 1), "7 7 7 2");
         park.set(1, 0);
@@ -516,6 +526,12 @@ final class TickTests {
         park.set(0, 1000);
         park.run(1);
         Check.due("all return", park.thread(1, 15) + park.thread(2, 15), 2);
+        PermitPark ends = Parks.of("thread 3: lock 3, lock 1, park; thread 2: lock 2, nap 50; thread 1: lock 1;");
+        ends.run(6);
+        ends.set(0, 1000);
+        ends.run(1);
+        Check.dueText("each end ahead of the next return", Parks.log(ends, 6),
+            "6.1.0.3 6.5.0.0 6.4.0.1 6.3.2.1 6.5.2.0 6.4.2.1 6.4.0.3 6.1.1.3 6.5.1.0 6.4.1.2");
         PermitPark edge = Parks.of("thread 1: park, run 1; set 0 345; seed 0;");
         edge.run(2);
         Check.due("345 is not less than 345", edge.thread(0, 2), 1);
