@@ -11,6 +11,13 @@ public final class AllTests {
         FollowTests.run();
         PredictionTests.run();
         SavedTests.run();
+        EdgeTextTests.run();
+        EdgeThreadTests.run();
+        EdgeFactTests.run();
+        EdgeActTests.run();
+        EdgeTermTests.run();
+        EdgeTickTests.run();
+        EdgePredictionTests.run();
         RandomTests.run();
         System.out.println(Check.passed() + " passed, " + Check.failed() + " failed");
         if (Check.failed() > 0) {

@@ -43,7 +43,8 @@ final class Parks {
 
     static String log(PermitPark park, int from) {
         StringBuilder told = new StringBuilder();
-        for (int i = from; i < park.count(13); i++) {
+        int events = park.count(13);
+        for (int i = from; i < events; i++) {
             told.append(i == from ? "" : " ").append(park.event(i, 0)).append('.').append(park.event(i, 1))
                 .append('.').append(park.event(i, 2)).append('.').append(park.event(i, 3));
         }
@@ -53,27 +54,35 @@ final class Parks {
     /** One fact of all threads. */
     static String facts(PermitPark park, int what) {
         StringBuilder told = new StringBuilder();
-        for (int i = 0; i < park.count(2); i++) {
+        int threads = park.count(2);
+        for (int i = 0; i < threads; i++) {
             told.append(i == 0 ? "" : " ").append(park.thread(i, what));
         }
         return told.toString();
     }
 
-    /** What can be seen of a small machine. */
+    /** What can be seen of a small machine; few calls, as an object is good for 512. */
     static String all(PermitPark park) {
         StringBuilder told = new StringBuilder();
+        int threads = 0;
         for (int what = 0; what <= 17; what++) {
-            told.append(park.count(what)).append(' ');
+            int count = park.count(what);
+            threads = what == 2 ? count : threads;
+            told.append(count).append(' ');
         }
-        for (int what = 0; what <= 18; what++) {
-            told.append("| ").append(facts(park, what)).append(' ');
-        }
-        for (int thread = 0; thread < park.count(2); thread++) {
-            for (int index = 0; index < park.thread(thread, 18); index++) {
+        for (int thread = 0; thread < threads; thread++) {
+            int length = 0;
+            told.append("| ");
+            for (int what = 0; what <= 18; what++) {
+                length = park.thread(thread, what);
+                told.append(length).append(' ');
+            }
+            for (int index = 0; index < length; index++) {
                 told.append(park.instruction(thread, index, 0)).append('/');
                 told.append(park.instruction(thread, index, 1)).append(' ');
             }
         }
+        told.append("| ");
         for (int lock = 0; lock < 6; lock++) {
             for (int index = 0; index < 3; index++) {
                 told.append(park.lock(lock, index)).append(' ');
