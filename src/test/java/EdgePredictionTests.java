@@ -35,6 +35,10 @@ final class EdgePredictionTests {
         Check.test("promise 34: if nothing is saved there", EdgePredictionTests::nothingSaved);
         Check.test("promise 34: which stays saved", EdgePredictionTests::staysSaved);
         Check.test("promises 33, 34: of a machine without threads, of a full one", EdgePredictionTests::emptyAndFull);
+        Check.test("promise 33: everything, a full log", EdgePredictionTests::savedLog);
+        Check.test("promise 33: everything, the counters", EdgePredictionTests::savedCounters);
+        Check.test("promise 33: everything, those that are blocked at each lock", EdgePredictionTests::savedLocks);
+        Check.test("promises 29 to 32: of 10 threads", EdgePredictionTests::tenThreads);
     }
 
     // ---- promise 29
@@ -467,5 +471,83 @@ final class EdgePredictionTests {
         Check.due("threads", park.count(2), 10);
         Check.due("parked", park.count(6), 10);
         Check.dueThrow("addThread", Edges.STATE, () -> park.addThread(5, 0, 1));
+    }
+
+    private static void savedLog() {
+        PermitPark park = Parks.of("thread 1: await 0; set 0 1000;");
+        park.run(100);
+        String log = Parks.log(park);
+        park.save(0);
+        park.run(7);
+        park.restore(0);
+        Check.dueText("the log", Parks.log(park), log);
+        park.run(500);
+        park.restore(0);
+        Check.due("events", park.count(13), 40);
+        PermitPark same = Parks.of("thread 1: await 0; set 0 1000;");
+        same.run(100);
+        park.run(3);
+        same.run(3);
+        Check.dueText("the log, later", Parks.log(park), Parks.log(same));
+    }
+
+    private static PermitPark counted() {
+        PermitPark park = Parks.of("thread 9: park, tell 1, steal 1, wake 2, wake 0, wake 0, run 9; thread 1: run 9;"
+            + "thread 9: run 1;");
+        park.wake(0);
+        park.run(9);
+        return park;
+    }
+
+    private static void savedCounters() {
+        int[] due = {1, 1, 1, 1};
+        PermitPark park = counted();
+        park.save(0);
+        for (int what = 14; what <= 17; what++) {
+            Check.due("count(" + what + ")", park.count(what), due[what - 14] + (what == 14 ? 1 : 0));
+        }
+        park.wake(0);
+        park.wake(0);
+        park.wake(2);
+        park.load();
+        park.restore(0);
+        Check.dueText("all", Parks.all(park), Parks.all(counted()));
+    }
+
+    private static void savedLocks() {
+        for (int lock : new int[] {0, 1, 5}) {
+            String setup = ("thread 9:lock L,nap 50;" + "thread 1:lock L,run 1;".repeat(9)).replace("L", "" + lock);
+            PermitPark park = Parks.of(setup);
+            Check.due("done in time", park.doneIn(9, 500), 60);
+            park.run(11);
+            park.save(1);
+            Check.due("done in time", park.doneIn(9, 500), 49);
+            Check.due("all done", park.ahead(49, 0), 10);
+            park.wake(0);
+            park.run(20);
+            park.load();
+            park.restore(1);
+            for (int index = 0; index <= 10; index++) {
+                Check.due("lock(" + lock + ", " + index + ")", park.lock(lock, index), index < 10 ? index : -1);
+            }
+            park.wake(0);
+            Check.due("run(9)", park.run(9), 9);
+        }
+    }
+
+    private static void tenThreads() {
+        PermitPark park = Parks.of("thread 1:nap 20,run 1;".repeat(10));
+        Check.due("ahead(20, 2)", park.ahead(20, 2), 0);
+        Check.due("ahead(21, 2)", park.ahead(21, 2), 1);
+        Check.due("ahead(30, 2)", park.ahead(30, 2), 10);
+        Check.due("ahead(29, 0)", park.ahead(29, 0), 9);
+        Check.due("ahead(30, 0)", park.ahead(30, 0), 10);
+        Check.due("ahead(30, 1)", park.ahead(30, 1), 10);
+        Check.due("ahead(30, 3)", park.ahead(30, 3), 30);
+        Check.due("doneIn(9, 500)", park.doneIn(9, 500), 30);
+        Check.due("returnsIn(9, 500)", park.returnsIn(9, 500), 30);
+        Check.due("bestBase(9, 200)", park.bestBase(9, 200), 2);
+        Check.due("bestBase(9, 21)", park.bestBase(9, 21), 2);
+        Check.due("bestBase(9, 20)", park.bestBase(9, 20), -1);
     }
 }

@@ -27,6 +27,7 @@ final class EdgeTermTests {
         Check.test("terms: await looks at the flag again when it runs next", EdgeTermTests::awaitAgain);
         Check.test("terms: set of a flag that is on, clear of one that is off", EdgeTermTests::setAgain);
         Check.test("terms: wake T, if there is no such thread nothing happens", EdgeTermTests::wakeNone);
+        Check.test("terms: wake, tell and steal of a thread that was there ahead of restore()", EdgeTermTests::goneThread);
         Check.test("terms: a wakeup, it can be the thread itself", EdgeTermTests::wakeItself);
         Check.test("terms: tell T, if the cause is 1", EdgeTermTests::tellByCause);
         Check.test("terms: tell T, the cause is 0 then, also without such a thread", EdgeTermTests::tellNone);
@@ -411,6 +412,26 @@ final class EdgeTermTests {
         Check.due("permit of the thread 9", ten.thread(9, 4), 1);
         Check.due("merged", ten.count(14), 1);
         Check.dueText("log", Parks.log(ten), "1.7.9.0");
+    }
+
+    private static void goneThread() {
+        PermitPark park = Parks.of("thread 1: steal 1, wake 1, park, tell 1, run 9;");
+        park.save(0);
+        park.addThread(9, 0, 20);
+        park.wake(1);
+        park.interrupt(1);
+        park.restore(0);
+        park.run(1);
+        Check.due("stolen", park.count(16), 0);
+        Check.due("permit", park.thread(0, 4), 0);
+        park.run(1);
+        Check.due("merged", park.count(14), 0);
+        park.wake(0);
+        park.run(2);
+        Check.due("told on", park.count(17), 0);
+        Check.due("events", park.count(13), 0);
+        Check.due("addThread", park.addThread(1, 0, 20), 1);
+        Check.due("neither permit nor interrupt", park.thread(1, 4) + park.thread(1, 5), 0);
     }
 
     private static void wakeItself() {

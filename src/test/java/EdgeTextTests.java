@@ -28,6 +28,7 @@ final class EdgeTextTests {
         Check.test("promise 4: the text buffer is empty afterwards", EdgeTextTests::emptyAfterwards);
         Check.test("promise 4: also if there is an error", EdgeTextTests::emptyAfterError);
         Check.test("promise 4: what it does not tell is as at first", EdgeTextTests::asAtFirst);
+        Check.test("promise 4: which replaces everything, of a machine that was full", EdgeTextTests::replacesFullMachine);
         Check.test("promise 4: except saved states", EdgeTextTests::savedStatesStay);
         Check.test("promise 4: with an error everything else stays", EdgeTextTests::everythingStays);
         Check.test("promises 5, 6: if there was no such call", EdgeTextTests::noLoadYet);
@@ -47,6 +48,7 @@ final class EdgeTextTests {
         Check.test("setup texts: spaces and line feeds ahead of, between and behind tokens", EdgeTextTests::blanks);
         Check.test("setup texts: no blank between tokens", EdgeTextTests::noBlanks);
         Check.test("setup texts: tokens are maximal runs", EdgeTextTests::maximalRuns);
+        Check.test("setup texts: words with one letter changed, less or more", EdgeTextTests::wordsByOneLetter);
         Check.test("setup texts: BASE 1 to 9", EdgeTextTests::baseRange);
         Check.test("setup texts: at least 1 instruction", EdgeTextTests::noInstruction);
         Check.test("setup texts: the numbers of the instructions", EdgeTextTests::instructionRanges);
@@ -308,6 +310,65 @@ final class EdgeTextTests {
         Check.dueText("all behind a tick", Parks.all(park), Parks.all(first));
     }
 
+    /** Ten threads that come to all states, are waited for at all locks, and are predicted ahead of load(). */
+    private static PermitPark full() {
+        PermitPark park = Parks.of("thread 9:lock 0,lock 1,lock 2,lock 3,lock 4,lock 5,park,tell 9,steal 9,await 0;"
+            + "thread 8:lock 0;thread 7:lock 1;thread 6:lock 2;thread 5:lock 3;thread 4:lock 4;thread 3:lock 5;"
+            + "thread 2:unlock 0;thread 1:nap 200;thread 1:wake 7,wake 9,wake 9,wake 9,await 1;flag 6;seed 9;");
+        park.run(18);
+        park.wake(8);
+        park.run(2);
+        park.wake(0);
+        park.interrupt(9);
+        park.interrupt(8);
+        park.run(4);
+        for (int i = 0; i < 10; i++) {
+            park.wake(i);
+            park.wake(i);
+            park.interrupt(i);
+        }
+        park.set(0, 20);
+        park.set(1, 0);
+        park.ahead(500, 0);
+        return park;
+    }
+
+    private static void replacesFullMachine() {
+        PermitPark counted = full();
+        for (int what = 6; what <= 17; what++) {
+            Check.due("count(" + what + ") is above 0", counted.count(what) > 0 || what == 6 || what == 12, true);
+        }
+        String[] setups = {"", "thread 3:run 2;", "thread 3:run 9;thread 2:lock 0,park;thread 1:steal 2,wake 3,tell 4;"};
+        for (String setup : setups) {
+            PermitPark park = full();
+            Parks.load(park, setup);
+            PermitPark fresh = Parks.of(setup);
+            Check.dueText("all behind load() of " + setup, Parks.all(park), Parks.all(fresh));
+            PermitPark later = full();
+            Parks.load(later, setup);
+            later.set(0, 1000);
+            PermitPark freshLater = Parks.of(setup);
+            freshLater.set(0, 1000);
+            while (later.count(2) < 10) {
+                Check.due("addThread", later.addThread(4, 0, 3), freshLater.addThread(4, 0, 3));
+            }
+            Check.due("run(30)", later.run(30), freshLater.run(30));
+            Check.dueText("all, later", Parks.all(later), Parks.all(freshLater));
+        }
+        PermitPark added = full();
+        added.load();
+        PermitPark fresh = new PermitPark();
+        for (int i = 0; i < 10; i++) {
+            Check.due("addThread", added.addThread(4, 9, 0), fresh.addThread(4, 9, 0));
+        }
+        Check.dueText("all with new threads", Parks.all(added), Parks.all(fresh));
+        for (int lock = 0; lock < 6; lock++) {
+            for (int index = 0; index < 10; index++) {
+                Check.due("lock(" + lock + ", " + index + ")", added.lock(lock, index), -1);
+            }
+        }
+    }
+
     private static void savedStatesStay() {
         PermitPark park = Edges.rich();
         park.load();
@@ -517,6 +578,36 @@ final class EdgeTextTests {
         wrong("thread 1:ru n 2;", 1, 9);
         wrong("flagflag 1;", 1, 0);
         Check.due("BASE", right("thread 07:park;").thread(0, 0), 7);
+    }
+
+    private static void wordsByOneLetter() {
+        String[] words = {"thread", "flag", "set", "seed"};
+        String[] behind = {" 1:park;", " 1;", " 1 1;", " 1;"};
+        for (int i = 0; i < words.length; i++) {
+            right(words[i] + behind[i]);
+            for (String other : near(words[i])) {
+                wrong(other + behind[i], 1, 0);
+            }
+        }
+        for (int code = 0; code < WORDS.length; code++) {
+            String number = code == 1 ? ";" : " 1;";
+            right("thread 1:" + WORDS[code] + number);
+            for (String other : near(WORDS[code])) {
+                wrong("thread 1:" + other + number, 1, 9);
+            }
+        }
+    }
+
+    private static String[] near(String word) {
+        String[] near = new String[3 * word.length() + 1];
+        for (int i = 0; i < word.length(); i++) {
+            String changed = word.charAt(i) == 'z' ? "y" : "z";
+            near[3 * i] = word.substring(0, i) + changed + word.substring(i + 1);
+            near[3 * i + 1] = word.substring(0, i) + word.substring(i + 1);
+            near[3 * i + 2] = word.substring(0, i) + changed + word.substring(i);
+        }
+        near[3 * word.length()] = word + "z";
+        return near;
     }
 
     // ---- setup texts: statements
