@@ -33,6 +33,7 @@ final class EdgeActTests {
         Check.test("promise 26: a ring of blocked threads, too", EdgeActTests::ringIsStuck);
         Check.test("promise 27: its priority divided by its BASE", EdgeActTests::lent);
         Check.test("promise 27: if there is no such thread", EdgeActTests::lentThread);
+        Check.test("promises 20, 21, 27, 29, 30, 32: in a ring of waits", EdgeActTests::inRing);
         Check.test("promise 28: 0.0 at the time 0", EdgeActTests::busyAtZero);
         Check.test("promise 28: no idle tick, all ticks idle", EdgeActTests::busyBounds);
         Check.test("an object is used for at most 512 calls", EdgeActTests::lastCall);
@@ -437,6 +438,29 @@ final class EdgeActTests {
         for (int thread : new int[] {-1, 4, 9, 10, Edges.LEAST, Edges.MOST}) {
             Edges.refused("lent(" + thread + ")", Edges.INDEX, park -> (long) park.lent(thread));
         }
+    }
+
+    private static void inRing() {
+        PermitPark park = Parks.of("thread 1: lock 0, lock 1; thread 1: lock 1, lock 2; thread 1: lock 2, lock 0;");
+        park.run(6);
+        park.setBase(1, 9);
+        float[] lent = {9.0f, 1.0f, 9.0f};
+        for (int thread = 0; thread < 3; thread++) {
+            Check.due("priority", park.thread(thread, 1), 9);
+            Check.dueReal("lent(" + thread + ")", park.lent(thread), lent[thread]);
+            Check.due("doneIn", park.doneIn(thread, 500), -1);
+            Check.due("returnsIn", park.returnsIn(thread, 500), -1);
+            Check.due("bestBase", park.bestBase(thread, 200), -1);
+            Check.due("rouse", park.rouse(thread), false);
+            Check.due("wake", park.wake(thread), 1);
+            Check.due("wake", park.wake(thread), 2);
+            Check.due("interrupt", park.interrupt(thread), 1);
+            Check.due("interrupt", park.interrupt(thread), 2);
+        }
+        Check.due("next()", park.next(), -1);
+        Check.due("run(500)", park.run(500), 0);
+        Check.dueText("state", Parks.facts(park, 2), "2 2 2");
+        Check.dueText("greatest", Parks.facts(park, 17), "9 9 9");
     }
 
     private static void busyAtZero() {

@@ -308,7 +308,7 @@ final class EdgePredictionTests {
                 int returns = park.returnsIn(thread, 500);
                 int done = park.doneIn(thread, 500);
                 PermitPark other = maker.make();
-                for (int tick = 1; tick <= 100; tick++) {
+                for (int tick = 1; tick <= 60; tick++) {
                     Check.due("returns", park.ahead(tick, 2), returnsBehind(other));
                     boolean hasReturned = other.thread(thread, 14) + other.thread(thread, 15) > 0;
                     Check.due("returned", hasReturned, returns > 0 && returns <= tick);

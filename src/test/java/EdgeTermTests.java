@@ -418,6 +418,7 @@ final class EdgeTermTests {
         PermitPark park = Parks.of("thread 1: steal 1, wake 1, park, tell 1, run 9;");
         park.save(0);
         park.addThread(9, 0, 20);
+        park.run(3);
         park.wake(1);
         park.interrupt(1);
         park.restore(0);
@@ -430,8 +431,11 @@ final class EdgeTermTests {
         park.run(2);
         Check.due("told on", park.count(17), 0);
         Check.due("events", park.count(13), 0);
-        Check.due("addThread", park.addThread(1, 0, 20), 1);
+        Check.due("addThread", park.addThread(9, 0, 20), 1);
         Check.due("neither permit nor interrupt", park.thread(1, 4) + park.thread(1, 5), 0);
+        Check.due("no part of its run is done", park.doneIn(1, 500), 20);
+        Check.due("run(19)", park.run(19), 0);
+        Check.due("run(1)", park.run(1), 1);
     }
 
     private static void wakeItself() {

@@ -212,7 +212,7 @@ final class EdgeTickTests {
         Check.due("0 comes again", (1103L * before(0) + 12345L) % MODULUS, 0);
         PermitPark park = Parks.of("thread 1: await 0; set 0 1; seed 1000002;");
         long x = 1000002;
-        for (int i = 0; i < 200; i++) {
+        for (int i = 0; i < 160; i++) {
             boolean isParked = park.thread(0, 2) == 1;
             park.run(1);
             x = isParked ? (1103L * x + 12345L) % MODULUS : x;

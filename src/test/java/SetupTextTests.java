@@ -165,30 +165,38 @@ final class SetupTextTests {
 
     private static void nothingIsLeft() {
         String small = "thread 3: wake 1, wake 1, tell 1, steal 1, run 1;";
-        PermitPark park = used();
+        PermitPark counted = used();
         for (int what = 5; what <= 17; what++) {
-            Check.due("count(" + what + ") is above 0", park.count(what) > 0 || what == 10 || what == 12, true);
+            Check.due("count(" + what + ") is above 0", counted.count(what) > 0 || what == 10 || what == 12, true);
         }
-        park.ahead(20, 0);
-        Check.due("load()", Parks.load(park, small), 1);
-        PermitPark fresh = Parks.of(small);
-        Check.dueText("all", Parks.all(park), Parks.all(fresh));
-        park.run(7);
-        fresh.run(7);
-        Check.dueText("all, later", Parks.all(park), Parks.all(fresh));
-        for (int i = 1; i < 10; i++) {
-            Check.due("addThread", park.addThread(i, 0, 3), i);
-            fresh.addThread(i, 0, 3);
+        // An object is good for 512 calls: one for each look.
+        for (int look = 0; look < 4; look++) {
+            PermitPark park = used();
+            park.ahead(20, 0);
+            Check.due("load()", Parks.load(park, small), 1);
+            PermitPark fresh = Parks.of(small);
+            for (PermitPark one : new PermitPark[] {park, fresh}) {
+                goOn(one, look);
+            }
+            Check.dueText("all, look " + look, Parks.all(park), Parks.all(fresh));
         }
-        Check.dueText("all, with new threads", Parks.all(park), Parks.all(fresh));
-        park.run(26);
-        fresh.run(26);
-        Check.dueText("all, with new threads, later", Parks.all(park), Parks.all(fresh));
         PermitPark spurious = used();
         Check.due("load()", Parks.load(spurious, "thread 1: run 9; set 0 1000;"), 1);
         spurious.run(3);
         Check.due("no draws for earlier threads", spurious.count(4), 1);
         Check.due("no returns of earlier threads", spurious.count(13), 0);
+    }
+
+    private static void goOn(PermitPark park, int look) {
+        if (look > 0) {
+            park.run(7);
+        }
+        for (int i = 1; i < 10 && look > 1; i++) {
+            Check.due("addThread", park.addThread(i, 0, 3), i);
+        }
+        if (look > 2) {
+            park.run(26);
+        }
     }
 
     private static void wrongTextChangesNothing() {
