@@ -191,7 +191,7 @@ public final class PermitPark {
     }
 
     public int event(int event, int what) throws IndexOutOfBoundsException, IllegalArgumentException {
-        needIndex(event, live.log.kept());
+        needIndex(event, live.log.kept);
         needInRange(what, 0, Log.WIDTH - 1);
         return live.log.cell(event, what);
     }
@@ -278,7 +278,7 @@ public final class PermitPark {
         return (double) (live.time - live.idleTicks) / (double) live.time;
     }
 
-    // ---- predictions
+    // ---- predictions (with the draws that would come, if only time passes; nothing changes)
 
     public int doneIn(int thread, int most) throws IndexOutOfBoundsException, IllegalArgumentException {
         needThread(thread);
@@ -604,7 +604,7 @@ public final class PermitPark {
         }
     }
 
-    /** The latest events; those of a greater number than are kept are only counted. */
+    /** The latest events, in a ring of rows; earlier ones are only counted. */
     private static final class Log {
         static final int WIDTH = 4;
         private static final int MOST = 40;
@@ -612,33 +612,43 @@ public final class PermitPark {
         private static final int THREAD = 2;
 
         private final int[] cells = new int[MOST * WIDTH];
+        /** The row of the next event. No row is reckoned from the total, so that no total is too great. */
+        private int nextRow;
+        int kept;
         int total;
+
+        void clear() {
+            nextRow = 0;
+            kept = 0;
+            total = 0;
+        }
 
         void copyFrom(Log other) {
             System.arraycopy(other.cells, 0, cells, 0, MOST * WIDTH);
+            nextRow = other.nextRow;
+            kept = other.kept;
             total = other.total;
         }
 
         void add(int time, int kind, int thread, int number) {
-            int first = total % MOST * WIDTH;
+            int first = nextRow * WIDTH;
             cells[first] = time;
             cells[first + 1] = kind;
             cells[first + 2] = thread;
             cells[first + 3] = number;
+            nextRow = (nextRow + 1) % MOST;
+            kept = Math.min(kept + 1, MOST);
             total++;
         }
 
-        int kept() {
-            return total < MOST ? total : MOST;
-        }
-
+        /** Only for an event that is kept: 0 is the earliest one. */
         int cell(int event, int what) {
-            return cells[(total - kept() + event) % MOST * WIDTH + what];
+            return cells[(nextRow + MOST - kept + event) % MOST * WIDTH + what];
         }
 
         int countOf(int kind, int thread) {
             int found = 0;
-            for (int i = 0; i < kept(); i++) {
+            for (int i = 0; i < kept; i++) {
                 if (cell(i, KIND) == kind && (thread == NONE || cell(i, THREAD) == thread)) {
                     found++;
                 }
@@ -679,7 +689,7 @@ public final class PermitPark {
 
         void clear() {
             locks.clear();
-            log.total = 0;
+            log.clear();
             settings[SPURIOUS] = 0;
             settings[LENDING] = 1;
             threadCount = 0;
@@ -784,7 +794,7 @@ public final class PermitPark {
                 case 10: return flags;
                 case 11: return locks.heldOnes();
                 case 12: return idleTicks;
-                case 13: return log.kept();
+                case 13: return log.kept;
                 case 14: return merged;
                 case 15: return wasted;
                 case 16: return stolen;

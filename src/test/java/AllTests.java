@@ -18,6 +18,9 @@ public final class AllTests {
         EdgeTermTests.run();
         EdgeTickTests.run();
         EdgePredictionTests.run();
+        FaceTests.run();
+        LanguageTests.run();
+        ReadmeTests.run();
         RandomTests.run();
         System.out.println(Check.passed() + " passed, " + Check.failed() + " failed");
         if (Check.failed() > 0) {
