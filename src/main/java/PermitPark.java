@@ -637,7 +637,9 @@ public final class PermitPark {
             cells[first + 2] = thread;
             cells[first + 3] = number;
             nextRow = (nextRow + 1) % MOST;
-            kept = Math.min(kept + 1, MOST);
+            if (kept < MOST) {
+                kept++;
+            }
             total++;
         }
 

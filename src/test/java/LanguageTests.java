@@ -21,7 +21,7 @@ final class LanguageTests {
         "ArrayStoreException", "Throwable", "Exception", "Error", "Long", "Integer", "File", "Scanner", "printf", "println");
     private static final Set<String> THROWN = Set.of("IllegalStateException", "IllegalArgumentException",
         "IndexOutOfBoundsException");
-    private static final Set<String> LIBRARY = Set.of("System.arraycopy", "Math.max", "Math.min");
+    private static final Set<String> LIBRARY = Set.of("System.arraycopy", "Math.max");
 
     private LanguageTests() {
     }
